@@ -20,6 +20,7 @@ public final class ClocksAndLinksTest {
         distance();
         components();
         isNeeded();
+        tenClocks();
         Check.end();
     }
 
@@ -168,6 +169,16 @@ public final class ClocksAndLinksTest {
         Check.due("7: to 2", x.clock(2, 6), 1);
         x.undo();
         Check.due("7: undo() brings them back", x.underWay(), 3);
+        for (int ticks = 1; ticks <= 40; ticks++) {
+            PulseClocks y = Check.withPhases(0, 0);
+            y.blink(0, 1, 0);
+            y.blink(1, 1, 0);
+            y.link(0, 1, 9);
+            y.tick(ticks);
+            Check.due("7: pulses after " + ticks + " ticks", y.underWay(), 2 * Math.min(ticks, 9));
+            y.link(0, 1, 8);
+            Check.due("7: all are gone", y.underWay(), 0);
+        }
     }
 
     private static void unlink() {
@@ -306,6 +317,25 @@ public final class ClocksAndLinksTest {
         Check.due("15: components() of a row", x.components(), 1);
         x.unlink(7, 8);
         Check.due("15: components() of two rows", x.components(), 2);
+    }
+
+    private static void tenClocks() {
+        PulseClocks x = Check.withPhases(39, 38, 37, 36, 35, 34, 33, 32, 31, 30);
+        for (int k = 1; k < 10; k++) {
+            x.link(0, k, 9);
+            Check.due("5: blink", x.blink(k, k, 0), k);
+        }
+        Check.due("12: links of 0", x.clock(0, 5), 9);
+        Check.due("14: distance(9, 8)", x.distance(9, 8), 2);
+        Check.due("15: components()", x.components(), 1);
+        Check.due("16: isNeeded(0)", x.isNeeded(0), true);
+        Check.due("16: isNeeded(9)", x.isNeeded(9), false);
+        Check.due("8: unlink(9, 0)", x.unlink(9, 0), 8);
+        Check.due("6: mend(9)", x.mend(9), 8);
+        Check.due("9: setPeriod(10)", x.setPeriod(10), 40);
+        for (int k = 0; k < 10; k++) {
+            Check.due("9: phase of " + k, x.clock(k, 0), 9 - k);
+        }
     }
 
     private static void isNeeded() {

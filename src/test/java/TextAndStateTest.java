@@ -217,6 +217,10 @@ public final class TextAndStateTest {
         x.setResponse(2, 1);
         x.tick(99);
         Check.due("38: digest()", x.digest(), told(x, new int[] {50, 7, 8, 1}, 36, 4));
+        x.setPhase(1, 0);
+        Check.due("38: digest() with the phase 0", x.digest(), told(x, new int[] {50, 7, 8, 1}, 36, 4));
+        x.setPhase(1, 49);
+        Check.due("38: digest() with the phase P - 1", x.digest(), told(x, new int[] {50, 7, 8, 1}, 36, 4));
         x.undo();
         x.clearText();
         Check.due("38: digest()", x.digest(), told(x, new int[] {50, 7, 8, 1}, 0, 3));

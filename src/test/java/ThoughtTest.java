@@ -7,6 +7,7 @@ public final class ThoughtTest {
         groupsAfter();
         repeats();
         repeatsByRule();
+        repeatsByPulses();
         leastStrength();
         basin();
         worstPhase();
@@ -95,6 +96,10 @@ public final class ThoughtTest {
         pulses.blink(1, 1, 0);
         pulses.link(0, 1, 3);
         cycle("pulses gather", pulses, 3, 1);
+        PulseClocks row = Check.withPhases(0, 20, 39);
+        row.link(0, 1, 0);
+        row.link(1, 2, 0);
+        cycle("a long way to a long cycle", row, 76, 40);
         Check.noArgument(back, "28: repeats(0, true)", () -> back.repeats(0, true));
         Check.noArgument(back, "28: repeats(401, false)", () -> back.repeats(401, false));
     }
@@ -122,6 +127,35 @@ public final class ThoughtTest {
         cycle("a rhythm of 99", both, 0, 99);
         both.setDrift(1, 0);
         Check.due("28: 99 * 40 is beyond 400", both.repeats(400, true), NONE);
+    }
+
+    /** Clock 0 stands still and ignores pulses, so the situations differ by those under way to it. */
+    private static PulseClocks toTheStill(int delay) {
+        PulseClocks x = Check.withPhases(0, 0);
+        x.setDrift(0, -1);
+        x.setResponse(0, 99);
+        x.link(0, 1, delay);
+        return x;
+    }
+
+    private static void repeatsByPulses() {
+        for (int delay = 1; delay <= 9; delay++) {
+            // After 40 ticks clock 1 is where it was, but for the pulse that it has begun.
+            cycle("one pulse", toTheStill(delay), delay, 40);
+            PulseClocks x = toTheStill(delay);
+            x.blink(1, 1, 0);
+            cycle("a pulse in every tick", x, delay, 1);
+        }
+        cycle("no pulse", toTheStill(0), 0, 40);
+        PulseClocks far = toTheStill(9);
+        far.tick(35);
+        // Present, in tick 35: no pulse, phase 35; in tick 75 the pulse of tick 40 is gone again.
+        cycle("the pulse comes and goes", far, 0, 40);
+        far.tick(10);
+        cycle("a pulse is under way", far, 0, 40);
+        far.unlink(0, 1);
+        far.link(0, 1, 9);
+        cycle("that pulse is gone", far, 4, 40);
     }
 
     private static void leastStrength() {
@@ -190,6 +224,17 @@ public final class ThoughtTest {
         Check.due("32: 1 and 2 differ", y.blamed(1), NONE);
         Check.noArgument(x, "32: blamed(0)", () -> x.blamed(0));
         Check.noArgument(x, "32: blamed(401)", () -> x.blamed(401));
+        PulseClocks ten = Check.withPhases(10, 10, 10, 10, 10, 10, 10, 10, 11, 12);
+        ten.blink(0, 1, 0);
+        Check.due("32: ten clocks", ten.blamed(400), NONE);
+        ten.blink(8, 1, 0);
+        Check.due("32: ten clocks", ten.blamed(400), NONE);
+        ten.setPhase(9, 10);
+        Check.due("32: ten clocks", ten.blamed(400), 0);
+        ten.mend(0);
+        ten.setPhase(8, 10);
+        Check.due("32: ten clocks", ten.blamed(400), 8);
+        cycle("ten clocks", ten, 0, 40);
         PulseClocks one = Check.withPhases(10);
         one.blink(0, 1, 0);
         Check.due("32: one alone", one.blamed(1), 0);

@@ -11,6 +11,7 @@ public final class TicksTest {
         window();
         delays();
         pulsesOfOneTick();
+        tenClocks();
         firesOncePerTick();
         orderOfSteps();
         orderOfArrivals();
@@ -173,6 +174,35 @@ public final class TicksTest {
         y.link(0, 1, 9);
         y.tick(20);
         Check.due("21: nine pulses on one link", y.clock(0, 6), 9);
+    }
+
+    private static void tenClocks() {
+        PulseClocks x = Check.withPhases(39, 38, 38, 38, 38, 38, 38, 38, 38, 38);
+        x.setResponse(2, 1);
+        for (int a = 0; a < 10; a++) {
+            for (int b = 0; b < a; b++) {
+                x.link(a, b, 0);
+            }
+        }
+        Check.due("17: one fires all", x.tick(1), 10);
+        Check.due("20: fired()", x.fired(), 1023);
+        notes(x, "ten at once", 1, 0, 1, 2, 3, 4, 5, 6, 7, 8, 9);
+        Check.due("17: all fire in step 1", x.tick(40), 10);
+        for (int a = 0; a < 10; a++) {
+            for (int b = 0; b < a; b++) {
+                x.link(a, b, 9);
+            }
+        }
+        x.tick(40);
+        Check.due("21: 90 pulses", x.underWay(), 90);
+        Check.due("21: to each clock 9", x.clock(9, 6), 9);
+        x.setResponse(1, 3);
+        Check.due("17: nine pulses of 3", x.tick(9), 0);
+        Check.due("17: phase", x.clock(9, 0), 9 + 27);
+        x.undo();
+        x.setResponse(1, 4);
+        Check.due("17: eight pulses of 4 are enough", x.tick(9), 10);
+        Check.due("17: phase", x.clock(9, 0), 0);
     }
 
     private static void firesOncePerTick() {
