@@ -570,7 +570,7 @@ public final class PulseClocks {
             return place >= 0 ? place : place + MOST_NOTES;
         }
 
-        void copyFrom(Log other) {
+        void copyNotes(Log other) {
             System.arraycopy(other.tickOf, 0, tickOf, 0, MOST_NOTES);
             System.arraycopy(other.clockOf, 0, clockOf, 0, MOST_NOTES);
             next = other.next;
@@ -615,7 +615,7 @@ public final class PulseClocks {
             System.arraycopy(other.response, 0, response, 0, response.length);
             time = other.time;
             firedSet = other.firedSet;
-            log.copyFrom(other.log);
+            log.copyNotes(other.log);
             System.arraycopy(other.phase, 0, phase, 0, phase.length);
             System.arraycopy(other.drift, 0, drift, 0, drift.length);
             System.arraycopy(other.rhythm, 0, rhythm, 0, rhythm.length);

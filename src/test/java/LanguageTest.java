@@ -169,8 +169,7 @@ public final class LanguageTest {
             if (names.get(k).equals(name)) {
                 Matcher m = Pattern.compile("\\b(\\w+)\\(").matcher(bodies.get(k));
                 while (m.find()) {
-                    boolean ownLog = name.equals("copyFrom") && m.group(1).equals("copyFrom");
-                    if (names.contains(m.group(1)) && !ownLog) {
+                    if (names.contains(m.group(1))) {
                         deepest = Math.max(deepest, depth(m.group(1), names, bodies, level + 1));
                     }
                 }
