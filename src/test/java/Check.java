@@ -6,15 +6,24 @@ final class Check {
 
     private static int wrong = 0;
     private static int seen = 0;
+    private static String context = "";
 
     private Check() {
+    }
+
+    /** What follows is told as a part of this, until it is called anew. */
+    static void under(String newContext) {
+        context = newContext;
+    }
+
+    static int seen() {
+        return seen;
     }
 
     static void due(String what, long got, long want) {
         seen++;
         if (got != want) {
-            wrong++;
-            System.out.println(what + " answered " + got + ", due is " + want);
+            tell(what + " answered " + got + ", due is " + want);
         }
     }
 
@@ -24,24 +33,35 @@ final class Check {
 
     static void fail(String what) {
         seen++;
+        tell(what);
+    }
+
+    private static void tell(String what) {
         wrong++;
-        System.out.println(what);
+        System.out.println(context + what);
+    }
+
+    /** The class of what a call throws; null if it throws nothing. */
+    static Class<?> thrown(Call call) {
+        try {
+            call.run();
+            return null;
+        } catch (RuntimeException e) {
+            return e.getClass();
+        }
+    }
+
+    static void threw(String what, Class<?> got, Class<?> want) {
+        seen++;
+        if (got != want) {
+            tell(what + " threw " + got + ", due is " + want);
+        }
     }
 
     /** The call is due to throw just this class, and to change nothing of the object. */
     static void refused(PulseClocks x, String what, Class<? extends RuntimeException> want, Call call) {
-        seen++;
         long before = x.digest();
-        Class<?> got = null;
-        try {
-            call.run();
-        } catch (RuntimeException e) {
-            got = e.getClass();
-        }
-        if (got != want) {
-            wrong++;
-            System.out.println(what + " threw " + got + ", due is " + want);
-        }
+        threw(what, thrown(call), want);
         due(what + ": digest() behind it", x.digest(), before);
     }
 

@@ -23,6 +23,7 @@ public final class LanguageTest {
     public static void main(String[] args) throws IOException {
         String source = Files.readString(SOURCE);
         face(Files.readString(DOCUMENT));
+        headings(Files.readString(DOCUMENT), source);
         members();
         words(withoutComments(source));
         calls(withoutComments(source));
@@ -55,6 +56,29 @@ public final class LanguageTest {
         }
         same("rule 1: the methods of the face", got, want);
         Check.due("the number of methods of the face", want.size(), 37);
+    }
+
+    /** What the interface says ahead of some calls stands ahead of them, and they in the document's order. */
+    private static void headings(String document, String source) {
+        Matcher m = Pattern.compile("Ahead of the calls ([^.]*) the interface says: ([^.]*)\\.").matcher(document);
+        int found = 0;
+        int at = 0;
+        while (m.find()) {
+            found++;
+            at = behind("// " + m.group(2) + "\n", source, at);
+            for (String call : m.group(1).replace("`", "").split(", ")) {
+                at = behind("    public ", source, at);
+                at = source.startsWith(call + "(", source.indexOf(' ', at) + 1) ? at : source.length();
+                Check.due("the heading and the order of " + call, at < source.length(), true);
+            }
+        }
+        Check.due("headings of the interface", found, 5);
+    }
+
+    /** Behind the next place of a text; the end if there is none. */
+    private static int behind(String text, String source, int from) {
+        int at = source.indexOf(text, from);
+        return at < 0 ? source.length() : at + text.length();
     }
 
     private static String names(Class<?>[] types) {
