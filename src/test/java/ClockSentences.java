@@ -80,6 +80,7 @@ final class ClockSentences {
             for (int what = 0; what <= 6; what++) {
                 Check.due("clock(1, " + what + ") again", again.clock(1, what), want[what]);
             }
+            afterThought(want);
         });
         s.says("Undoable.", () -> {
             Twins.undoable("add", Nets::rich, x -> x.add(0));
@@ -112,6 +113,23 @@ final class ClockSentences {
             PulseClocks x = Check.withPhases(0, 0, 0, 0, 0, 0, 0, 0, 0);
             Check.due("there are 9", x.add(0), 9);
         });
+    }
+
+    /** A query in thought has seen a clock 1 with a drift, a link and pulses, which was taken back then. */
+    private static void afterThought(int[] want) {
+        PulseClocks x = Check.withPhases(5, 39);
+        x.setDrift(1, 5);
+        x.blink(1, 1, 98);
+        x.link(0, 1, 7);
+        x.groupsAfter(4);
+        for (int k = 0; k < 4; k++) {
+            x.undo();
+        }
+        Check.due("a command adds it", Check.run(x, "a11;"), 1);
+        for (int what = 0; what <= 6; what++) {
+            Check.due("clock(1, " + what + ") by a command", x.clock(1, what), want[what]);
+        }
+        Check.due("linkOf(0, 1)", x.linkOf(0, 1), NONE);
     }
 
     private static PulseClocks withPeriod(int period) {
@@ -495,7 +513,7 @@ final class ClockSentences {
 
     /** Ten phases, half of them of blinkers, around the new period and its multiples. */
     private static void shrunk(int period) {
-        int[] phases = {0, period - 1, period % 100, (period + 1) % 100, 99, 98, (2 * period - 1) % 100, 2 * period % 100, 50, 9};
+        int[] phases = {99, period - 1, period % 100, (period + 1) % 100, 0, 98, (2 * period - 1) % 100, 2 * period % 100, 50, 9};
         PulseClocks x = withPeriod(100);
         for (int c = 0; c < 10; c++) {
             x.add(phases[c]);
@@ -521,10 +539,7 @@ final class ClockSentences {
     private static void setResponse(Sentences s) {
         s.in("Promise 10");
         s.says("Changes the response.", () -> {
-            PulseClocks x = Check.withPhases(0, 20);
-            x.setDrift(1, -1);
-            x.blink(0, 1, 0);
-            x.link(0, 1, 0);
+            PulseClocks x = pushedFrom20();
             Check.due("window 0, strength 4, kind 0", moved(x), 25);
             x.setResponse(1, 8);
             Check.due("strength 8", moved(x), 30);
@@ -552,6 +567,14 @@ final class ClockSentences {
             Check.due("the strength alone is 0", x.setResponse(1, 4), 0);
             Check.due("the kind alone is 1", x.setResponse(2, 0), 1);
             Twins.takes("what", Nets::rich, 0, 2, NO_ARGUMENT, (y, v) -> y.setResponse(v, 0));
+            PulseClocks pushed = pushedFrom20();
+            pushed.setResponse(0, 21);
+            Check.due("0 is the window", moved(pushed), 20);
+            pushed.setResponse(0, 0);
+            pushed.setResponse(1, 16);
+            Check.due("1 is the strength", moved(pushed), 1000);
+            pushed.setResponse(2, 1);
+            Check.due("2 is the kind", moved(pushed), 36);
         });
         s.says("`value`: the new value: 0 to 99, 0 to 32, or 0 to 2", () -> {
             int[] most = {99, 32, 2};
@@ -581,11 +604,20 @@ final class ClockSentences {
         });
     }
 
-    /** Where the pulse of one tick moves clock 1 from 20; it is put back then. */
+    /** Clock 1 stands still at 20, but for the pulses of blinker 0. */
+    private static PulseClocks pushedFrom20() {
+        PulseClocks x = Check.withPhases(0, 20);
+        x.setDrift(1, -1);
+        x.blink(0, 1, 0);
+        x.link(0, 1, 0);
+        return x;
+    }
+
+    /** Where the pulse of one tick moves clock 1 from 20, 1000 if it fires by it; it is put back then. */
     private static int moved(PulseClocks x) {
-        x.tick(1);
+        int fires = x.tick(1);
         int phase = x.clock(1, 0);
         x.setPhase(1, 20);
-        return phase;
+        return fires == 2 && phase == 0 ? 1000 : phase;
     }
 }

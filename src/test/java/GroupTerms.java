@@ -166,6 +166,19 @@ final class GroupTerms {
         return x;
     }
 
+    /** Ten clocks that ignore pulses: one counts to 10 and sends them to another one; all others stand still. */
+    private static PulseClocks oneOfTen(int from, int to) {
+        PulseClocks x = new PulseClocks();
+        x.setPeriod(10);
+        x.setResponse(0, 99);
+        for (int c = 0; c < 10; c++) {
+            x.add(0);
+            x.setDrift(c, c == from ? 0 : -1);
+        }
+        x.link(from, to, 9);
+        return x;
+    }
+
     private static void pulsesOfSituations(Sentences s) {
         s.says("the same pulses are under way", () -> {
             for (int delay = 1; delay <= 9; delay++) {
@@ -176,6 +189,13 @@ final class GroupTerms {
                 cycle("one pulse with the delay " + delay, x, delay, 10);
                 x.blink(0, 1, 0);
                 cycle("a pulse in every tick with the delay " + delay, x, delay, 1);
+            }
+            for (int from = 0; from < 10; from++) {
+                for (int to = 0; to < 10; to++) {
+                    if (from != to) {
+                        cycle("one pulse from " + from + " to " + to, oneOfTen(from, to), 9, 10);
+                    }
+                }
             }
             PulseClocks none = carriers(0, 0);
             none.link(0, 2, 0);

@@ -1,3 +1,5 @@
+import java.math.BigInteger;
+
 /** Promises 34 to 38, sentence by sentence. */
 final class TextSentences {
     private TextSentences() {
@@ -86,9 +88,9 @@ final class TextSentences {
     private static void execute(Sentences s) {
         s.in("Promise 36");
         s.says("Executes the text as commands, one after the other, each one like the method.", () -> {
-            PulseClocks x = rich("a5;l6,0,3;t9;p6,36;b1,2,1;t1;l6,0,2;t30;");
-            PulseClocks y = rich("a5;l6,0,3;t9;p6,36;b1,2,1;t1;l6,0,2;t30;");
-            Check.due("execute()", x.execute(), 8);
+            PulseClocks x = rich("a5;l6,0,3;t9;p6,36;b1,2,1;t1;l6,0,2;t30;a17;");
+            PulseClocks y = rich("a5;l6,0,3;t9;p6,36;b1,2,1;t1;l6,0,2;t30;a17;");
+            Check.due("execute()", x.execute(), 9);
             y.add(5);
             y.link(6, 0, 3);
             y.tick(9);
@@ -97,6 +99,7 @@ final class TextSentences {
             y.tick(1);
             y.link(6, 0, 2);
             y.tick(30);
+            y.add(17);
             for (int n = 0; n < 12; n++) {
                 // The saved states are four in both of them by then.
                 x.tick(1);
@@ -232,6 +235,14 @@ final class TextSentences {
         return h;
     }
 
+    private static BigInteger exactHash(int... values) {
+        BigInteger h = BigInteger.valueOf(1858);
+        for (int v : values) {
+            h = h.multiply(BigInteger.valueOf(31)).add(BigInteger.valueOf(v));
+        }
+        return h;
+    }
+
     private static void digest(Sentences s) {
         s.in("Promise 38");
         s.says("Returns a hash of the state.", () -> {
@@ -269,13 +280,13 @@ final class TextSentences {
                 0, 0, 2, 3, 1, 11, 4, 8, 0, 4));
         });
         s.says("fired(); underWay();", () -> {
-            PulseClocks x = Check.withPhases(39, 5);
+            PulseClocks x = Check.withPhases(5, 39);
             x.link(0, 1, 9);
             x.tick(1);
             Check.due("digest()", x.digest(), hash(40, 0, 4, 0, 1, 2,
-                0, 0, 0, -1, -1, 1, 0, -1, 9,
-                6, 0, 0, -1, -1, 1, 1, 9, -1,
-                1, 1, 2, 0, 1, 6, 2, 6, 1, 0, 0, 4));
+                6, 0, 0, -1, -1, 1, 1, -1, 9,
+                0, 0, 0, -1, -1, 1, 0, 9, -1,
+                2, 1, 2, 0, 2, 6, 1, 6, 1, 1, 0, 4));
         });
         s.says("groups(), and for each group its phase and its clocks; spread();", () -> {
             PulseClocks x = Check.withPhases(39, 0, 39);
@@ -310,14 +321,17 @@ final class TextSentences {
             }
         });
         s.says("Returns the hash, with the overflow of long arithmetic ignored.", () -> {
-            // 31 to the power of 12 fits in a long, and times 1858 it does, too; two values more do not.
-            java.math.BigInteger exact = java.math.BigInteger.valueOf(1858);
-            int[] values = {40, 0, 4, 0, 0, 1, 39, 0, 0, -1, -1, 0, 0, -1, 0, 0, 1, 39, 1, 0, 0, 1};
-            for (int v : values) {
-                exact = exact.multiply(java.math.BigInteger.valueOf(31)).add(java.math.BigInteger.valueOf(v));
+            int below = 0;
+            for (int length = 0; length <= 99; length++) {
+                PulseClocks x = Check.withPhases(39);
+                Nets.type(x, "x".repeat(length));
+                BigInteger exact = exactHash(40, 0, 4, 0, 0, 1, 39, 0, 0, -1, -1, 0, 0, -1, 0, 0, 1, 39, 1, 0, length, 1);
+                Check.due("it is beyond long", exact.bitLength() > 64, true);
+                Check.due("digest()", x.digest(), exact.longValue());
+                x.tick(1 + length % 99);
+                below += x.digest() < 0 ? 1 : 0;
             }
-            Check.due("it is beyond long", exact.bitLength() > 64, true);
-            Check.due("digest()", Check.withPhases(39).digest(), exact.longValue());
+            Check.due("some are negative, some are not", below > 0 && below < 100, true);
         });
     }
 }

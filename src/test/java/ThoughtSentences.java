@@ -157,6 +157,11 @@ final class ThoughtSentences {
             x.tick(13);
             Check.due("the present one comes again", x.repeats(400, true), 0);
             Check.due("after a round", x.repeats(40, false), 40);
+            PulseClocks y = Nets.blinkers(2);
+            y.link(0, 1, 1);
+            Check.due("the present one, without pulses, is one of its own", y.repeats(400, true), 1);
+            y.tick(1);
+            Check.due("the present one has the pulses by now", y.repeats(400, true), 0);
         });
         s.says(LIMIT, () -> {
             Check.due("9 + 391 is 400", long400().repeats(400, false), 391);
@@ -335,6 +340,17 @@ final class ThoughtSentences {
             x.setDrift(0, -1);
             Check.due("P - 1", x.worstPhase(1, 400), 99);
             Check.due("0", meeting(0).worstPhase(1, 400), 0);
+            // In the next tick clock 0 makes no step, so that from P, which is no phase, it would wait longest.
+            PulseClocks y = new PulseClocks();
+            y.setPeriod(10);
+            y.add(7);
+            y.add(6);
+            y.link(0, 1, 1);
+            y.setDrift(0, -2);
+            y.setResponse(2, 1);
+            y.setResponse(1, 9);
+            y.tick(1);
+            Check.due("P is none", y.worstPhase(0, 400), 0);
         });
         s.says(CLOCK_REFUSED, () -> {
             Twins.takes("clock", ThoughtSentences::small, 0, 1, NO_CLOCK, (x, v) -> x.worstPhase(v, 5));

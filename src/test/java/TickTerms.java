@@ -291,8 +291,12 @@ final class TickTerms {
             Check.due("it becomes another one", x.clock(0, 6), 9);
             x.mend(0);
             Check.due("it becomes good", x.clock(0, 6), 9);
+            x.blink(1, 50, 0);
+            Check.due("the clock that they come from becomes another blinker", x.clock(0, 6), 9);
             x.mend(1);
-            Check.due("the clock that they come from, too", x.clock(0, 6), 9);
+            Check.due("the clock that they come from becomes good", x.clock(0, 6), 9);
+            x.blink(1, 99, 0);
+            Check.due("the clock that they come from becomes a blinker", x.clock(0, 6), 9);
             x.tick(9);
             Check.due("they reach it", x.clock(0, 0), 9 + 9 + 9);
             Check.due("underWay()", x.underWay(), 0);

@@ -95,8 +95,16 @@ final class Twins {
         if (got.equals(want)) {
             Check.due(what, 0, 0);
         } else {
-            Check.fail(what + ": is " + got + ", due is " + want);
+            Check.fail(what + ": is .." + fromTheirDifference(got, want) + ", due is .." + fromTheirDifference(want, got));
         }
+    }
+
+    private static String fromTheirDifference(String text, String other) {
+        int at = 0;
+        while (at < text.length() && at < other.length() && text.charAt(at) == other.charAt(at)) {
+            at++;
+        }
+        return text.substring(Math.max(at - 30, 0), Math.min(at + 30, text.length()));
     }
 
     static int saved(Maker maker, Act act) {
