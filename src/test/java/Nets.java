@@ -45,6 +45,20 @@ final class Nets {
         return withRoom(x);
     }
 
+    /** In the next tick clock 0 makes no step, so that from P, which is no phase, it would wait longest. */
+    static PulseClocks longestFromP() {
+        PulseClocks x = new PulseClocks();
+        x.setPeriod(10);
+        x.add(7);
+        x.add(6);
+        x.link(0, 1, 1);
+        x.setDrift(0, -2);
+        x.setResponse(2, 1);
+        x.setResponse(1, 9);
+        x.tick(1);
+        return x;
+    }
+
     /** Undoes an execution that has dropped the oldest of four saved states: three are left. */
     private static PulseClocks withRoom(PulseClocks x) {
         x.execute();

@@ -5,23 +5,26 @@ import java.lang.management.ManagementFactory;
  * what a run makes stays far below, because only the constructor makes anything.
  */
 public final class RoomTest {
-    private static final int ROUNDS = 40;
+    // More calls than 512 are free to answer what they like, and to make what they like.
+    private static final int ROUNDS = 10;
     private static final com.sun.management.ThreadMXBean THREADS =
         (com.sun.management.ThreadMXBean) ManagementFactory.getThreadMXBean();
 
     public static void main(String[] args) {
         THREADS.setThreadAllocatedMemoryEnabled(true);
-        PulseClocks x = network();
-        everyCall(x);
+        PulseClocks[] objects = {network(), network(), network(), network()};
+        everyCall(objects[0]);
         long before = made();
         new PulseClocks();
         Check.due("bytes of a new object are below 30,000", made() - before < 30_000, true);
         before = made();
-        for (int k = 0; k < ROUNDS; k++) {
-            everyCall(x);
+        for (PulseClocks x : objects) {
+            for (int k = 0; k < ROUNDS; k++) {
+                everyCall(x);
+            }
         }
         // The machine makes some hundred bytes of its own in between.
-        Check.due("the calls make nothing", made() - before < ROUNDS * 300, true);
+        Check.due("the calls make nothing", made() - before < objects.length * ROUNDS * 300, true);
         Check.end();
     }
 

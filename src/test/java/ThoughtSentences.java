@@ -340,17 +340,7 @@ final class ThoughtSentences {
             x.setDrift(0, -1);
             Check.due("P - 1", x.worstPhase(1, 400), 99);
             Check.due("0", meeting(0).worstPhase(1, 400), 0);
-            // In the next tick clock 0 makes no step, so that from P, which is no phase, it would wait longest.
-            PulseClocks y = new PulseClocks();
-            y.setPeriod(10);
-            y.add(7);
-            y.add(6);
-            y.link(0, 1, 1);
-            y.setDrift(0, -2);
-            y.setResponse(2, 1);
-            y.setResponse(1, 9);
-            y.tick(1);
-            Check.due("P is none", y.worstPhase(0, 400), 0);
+            Check.due("P is none", Nets.longestFromP().worstPhase(0, 400), 0);
         });
         s.says(CLOCK_REFUSED, () -> {
             Twins.takes("clock", ThoughtSentences::small, 0, 1, NO_CLOCK, (x, v) -> x.worstPhase(v, 5));

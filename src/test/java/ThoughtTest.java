@@ -202,16 +202,7 @@ public final class ThoughtTest {
         Check.due("31: beyond the limit", x.worstPhase(1, 39), 20);
         Check.due("31: two beyond the limit", x.worstPhase(1, 38), 20);
         Check.due("31: 0 waits 20 ticks", x.worstPhase(1, 19), 0);
-        // The next tick gives clock 0 no step, so that the phase P, which is none, would wait longest.
-        PulseClocks y = new PulseClocks();
-        y.setPeriod(10);
-        y.add(7);
-        y.add(6);
-        y.link(0, 1, 1);
-        y.setDrift(0, -2);
-        y.setResponse(2, 1);
-        y.setResponse(1, 9);
-        y.tick(1);
+        PulseClocks y = Nets.longestFromP();
         Check.due("31: phases below P alone", y.worstPhase(0, 400), 0);
         Check.due("30: phases below P alone", y.basin(0, 400), 10);
         Check.due("30: eight phases wait for five ticks", y.basin(0, 4), 2);
